@@ -1286,17 +1286,11 @@ public final class CurvePoints {
 
     /** SUMS by numbers: ZERO, one of those held, FAR. */
     private static final class Sums {
-        private static final int STAMP_STEP = 2048;
-        private static final int CODE_SHIFT = 8;
-
         private final PointList list;
         private final Adder adder = new Adder();
-        /** Answers already found, each with the stamp of the LIST it was found for. */
-        private final int[] table = new int[HELD_MOST * HELD_MOST];
         private final int[] orders = new int[LIST_MOST];
         private final int[] firstTimes = new int[2 * FACTOR_MOST + 1];
         private final int[] otherTimes = new int[2 * FACTOR_MOST + 1];
-        private int stamp;
         private int lines;
         private int factorS;
         private int factorT;
@@ -1306,7 +1300,6 @@ public final class CurvePoints {
         }
 
         void renew() {
-            stamp++;
             lines = NONE;
             Arrays.fill(orders, NONE);
         }
@@ -1333,13 +1326,8 @@ public final class CurvePoints {
             if (i == FAR || j == FAR) return FAR;
             if (i == ZERO) return j;
             if (j == ZERO) return i;
-            int slot = Math.min(i, j) * HELD_MOST + Math.max(i, j);
-            int code = Whole.pick(table, slot) - stamp * STAMP_STEP;
-            if (code > 0 && code < STAMP_STEP) return code - CODE_SHIFT;
             adder.join(list, i, j);
-            int place = adder.placeIn(list);
-            Whole.store(table, slot, stamp * STAMP_STEP + place + CODE_SHIFT);
-            return place;
+            return adder.placeIn(list);
         }
 
         int total(int i, int j) {

@@ -123,7 +123,7 @@ public final class RuleTests {
         Set<Object> met = Collections.newSetFromMap(new IdentityHashMap<>());
         CurvePoints x = Texts.on("curve -60 -161 within 1000 6;");
         int size = room(x, met);
-        due("an object takes few elements, " + size, size < 30000);
+        due("an object takes few elements, " + size, size < 10000);
         due("an object takes few objects, " + met.size(), met.size() < 100);
     }
 
