@@ -653,7 +653,7 @@ final class Model {
         return all;
     }
 
-    private List<Klass> side(int side) {
+    List<Klass> side(int side) {
         return side == 0 ? classesOf(state.a, state.b) : classesOf(-2L * state.a, c());
     }
 

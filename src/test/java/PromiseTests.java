@@ -490,6 +490,10 @@ public final class PromiseTests {
         due(55, "zero: s", x.solves(1, 2, ZERO, 0), 0);
         due(55, "zero: t", x.solves(1, 2, ZERO, 1), 0);
         due(55, "none", x.solves(2, 2, 1, 0), NO_SUCH);
+        CurvePoints wide = Texts.on("curve 49 175;");
+        for (int s = -5; s <= 5; s++) due(55, "(-35, 105) " + s + " times", wide.solves(3, ZERO, wide.times(3, s), 0), s);
+        for (int t = -5; t <= 5; t++) due(55, "(-35, 105) " + t + " times, behind", wide.solves(ZERO, 3, wide.times(3, t), 1), t);
+        due(55, "6 times is beyond", wide.times(3, 6) >= 0 ? wide.solves(3, ZERO, wide.times(3, 6), 0) : 0, NO_SUCH);
         due(55, "what -1", x.solves(1, 2, 5, -1), NO_SUCH);
         due(55, "no such", x.solves(1, 2, 7, 0), NO_SUCH);
     }
@@ -540,11 +544,17 @@ public final class PromiseTests {
         due(34, "its a", y.count(0), -5);
         due(34, "its b", y.count(1), -150);
         due(34, "a out of bounds", Texts.on("curve 31 1;").twists(2), -5);
+        due(34, "a at its bound, by 2", Texts.on("curve 30 -50 within 1 1;").twists(2) >= 0 ? 1 : 0, 1);
+        due(34, "both at their bounds, by -2", Texts.on("curve 30 50 within 1 1;").twists(-2) >= 0 ? 1 : 0, 1);
+        due(34, "by 9", Texts.on("curve 0 1 within 1 1;").twists(9) >= 0 ? 1 : 0, 1);
+        due(34, "by -9", Texts.on("curve 0 1 within 1 1;").twists(-9) >= 0 ? 1 : 0, 1);
         due(35, "within", x.within(200, 1), 5);
         due(35, "M", x.count(2), 200);
         due(35, "E", x.count(3), 1);
         for (int[] pair : new int[][] {{0, 1}, {1001, 1}, {1, 0}, {1, 7}, {-1, 1}}) due(35, "out", x.within(pair[0], pair[1]), -2);
         due(35, "stays", x.count(2), 200);
+        due(35, "the widest", Texts.on("curve 17 -105;").within(1000, 6), 73);
+        due(35, "the narrowest: (-1, -11) (-1, 11) (0, 0)", Texts.on("curve 17 -105;").within(1, 1), 3);
     }
 
     private static void undoing() {
