@@ -440,12 +440,12 @@ public final class CurvePoints {
 
     public long related(int i, int j, int what) {
         if (!isPoint(i) || !isPoint(j) || what < 0 || what > 1) return NO_SUCH;
-        return sums.findRelation(i, j) ? sums.factor(what) : NO_SUCH;
+        return sums.findFactors(i, j, NONE) ? sums.factor(what) : NO_SUCH;
     }
 
     public long solves(int i, int j, int k, int what) {
         if (!isPoint(i) || !isPoint(j) || !isPoint(k) || what < 0 || what > 1) return NO_SUCH;
-        return sums.findSolution(i, j, k) ? sums.factor(what) : NO_SUCH;
+        return sums.findFactors(i, j, k) ? sums.factor(what) : NO_SUCH;
     }
 
     public int made(int i, int j) {
@@ -1385,25 +1385,14 @@ public final class CurvePoints {
             return what == 0 ? factorS : factorT;
         }
 
-        boolean findRelation(int i, int j) {
+        /** Sets the factors by which both together are the goal; by the goal NONE, which are ROUND, not both 0. */
+        boolean findFactors(int i, int j, int goal) {
             fillTimes(i, j);
-            for (int size = 1; size <= 2 * FACTOR_MOST; size++) {
+            for (int size = goal == NONE ? 1 : 0; size <= 2 * FACTOR_MOST; size++) {
                 for (int s = -FACTOR_MOST; s <= FACTOR_MOST; s++) {
                     int t = size - Math.abs(s);
                     if (t < 0 || t > FACTOR_MOST) continue;
-                    if (comesRound(s, -t) || comesRound(s, t)) return true;
-                }
-            }
-            return false;
-        }
-
-        boolean findSolution(int i, int j, int goal) {
-            fillTimes(i, j);
-            for (int size = 0; size <= 2 * FACTOR_MOST; size++) {
-                for (int s = -FACTOR_MOST; s <= FACTOR_MOST; s++) {
-                    int t = size - Math.abs(s);
-                    if (t < 0 || t > FACTOR_MOST) continue;
-                    if (together(s, -t) == goal || together(s, t) == goal) return true;
+                    if (reaches(s, -t, goal) || reaches(s, t, goal)) return true;
                 }
             }
             return false;
@@ -1416,15 +1405,11 @@ public final class CurvePoints {
             }
         }
 
-        private int together(int s, int t) {
+        private boolean reaches(int s, int t, int goal) {
             factorS = s;
             factorT = t;
-            return total(Whole.pick(firstTimes, s + FACTOR_MOST), Whole.pick(otherTimes, t + FACTOR_MOST));
-        }
-
-        private boolean comesRound(int s, int t) {
-            int reached = together(s, t);
-            return reached != FAR && orderOf(reached) > 0;
+            int reached = total(Whole.pick(firstTimes, s + FACTOR_MOST), Whole.pick(otherTimes, t + FACTOR_MOST));
+            return goal == NONE ? reached != FAR && orderOf(reached) > 0 : reached == goal;
         }
     }
 
