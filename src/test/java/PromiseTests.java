@@ -377,6 +377,11 @@ public final class PromiseTests {
                 due(21, "side 1 class " + k + " " + what, x.classOf(1, k, what), one[k][what]);
             }
         }
+        // 2 M M M M - 60 M M - 64 is 544 544 by M 20; 129 + 116 e e + 32 e e e e is 2273 2273 by e 20.
+        due(21, "M 20", Texts.on("curve -60 -128;").classOf(0, 2, 4), 20);
+        due(21, "e 1 with it", Texts.on("curve -60 -128;").classOf(0, 2, 5), 1);
+        due(21, "e 20", Texts.on("curve -58 -191;").classOf(1, 12, 5), 20);
+        due(21, "M 1 with it", Texts.on("curve -58 -191;").classOf(1, 12, 4), 1);
         due(21, "class 4", x.classOf(0, 4, 0), NO_SUCH);
         due(21, "class -1", x.classOf(0, -1, 0), NO_SUCH);
         due(21, "side 2", x.classOf(2, 0, 0), NO_SUCH);
@@ -574,7 +579,10 @@ public final class PromiseTests {
         due(49, "points", x.count(4), 7);
         due(49, "none more", x.undo(), NONE);
         for (int k = 1; k <= 12; k++) x.within(k, 1);
-        for (int k = 9; k >= 0; k--) due(49, "of ten", x.undo(), k);
+        for (int k = 9; k >= 0; k--) {
+            due(49, "of ten", x.undo(), k);
+            due(49, "M of ten", x.count(2), k + 2);
+        }
         due(49, "the eleventh is gone", x.undo(), NONE);
         due(49, "M", x.count(2), 2);
         x.within(7, 1);

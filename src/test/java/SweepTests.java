@@ -49,6 +49,10 @@ public final class SweepTests {
     private int askPoints() {
         for (int i = 0; i < model.count(4); i++) {
             for (int what = 0; what < 3; what++) compare("point " + i + " " + what, due.point(i, what), model.point(i, what));
+            compare("part " + i, due.part(i), model.part(i));
+            compare("turned " + i, due.turned(i), model.turned(i));
+            compare("bits " + i, due.bits(i), model.bits(i));
+            compare("order " + i, due.order(i), model.order(i));
         }
         compare("over many", due.overMany(), model.overMany());
         return wrong;
