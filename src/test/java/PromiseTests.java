@@ -2,7 +2,7 @@ import java.lang.reflect.InvocationTargetException;
 import java.lang.reflect.Method;
 import java.lang.reflect.Modifier;
 
-/** For each promise of the document ordinary inputs, the edges it names, and wrong inputs; the answers are worked out by hand. */
+/** For each promise of the document ordinary inputs, the edges it names, and wrong inputs; the answers are worked out by hand or by Model. */
 public final class PromiseTests {
     private static final long NO_SUCH = CurvePoints.NO_SUCH;
     private static final int NONE = CurvePoints.NONE;
