@@ -12,6 +12,8 @@ final class ClassEdges {
         firstFound();
         possibleByNumbers();
         possibleBySigns();
+        possibleAll();
+        changed();
         made();
         classes();
         classOf();
@@ -181,6 +183,68 @@ final class ClassEdges {
             Edge.due(row[0] + " " + row[1] + " side " + row[2] + ", d below 0", x.classOf(row[2], row[3], 0) < 0 ? 1 : 0, 1);
             Edge.due(row[0] + " " + row[1] + " side " + row[2] + ", POSSIBLE", x.classOf(row[2], row[3], 2), 1);
         }
+    }
+
+    /** Of every fifth CURVE all CLASSES: what is told of each q depends on d, a, b by d modulo q alone, and is kept. */
+    private static void possibleAll() {
+        Edge.says(Edge.TERMS, "POSSIBLE, if (1)");
+        int[] numbers = {16, 9, 25, 49, 11, 13};
+        int[] primes = {2, 3, 5, 7, 11, 13};
+        byte[][] kept = new byte[6][];
+        for (int q = 0; q < 6; q++) kept[q] = new byte[numbers[q] * numbers[q] * numbers[q]];
+        for (int turn = 0; turn < 121 * 401; turn += 5) {
+            int curveA = turn / 401 - 60;
+            int curveB = turn % 401 - 200;
+            if (curveB == 0 || curveA * curveA == 4 * curveB) continue;
+            CurvePoints x = Texts.on("curve " + curveA + " " + curveB + " within 1 1;");
+            for (int side = 0; side < 2; side++) {
+                long a = side == 0 ? curveA : -2 * curveA;
+                long b = side == 0 ? curveB : curveA * curveA - 4 * curveB;
+                for (int k = 0; k < x.classes(side, 0); k++) {
+                    long d = x.classOf(side, k, 0);
+                    boolean may = hasSign(d, a, b);
+                    for (int q = 0; q < 6 && may; q++) may = isPossibleKept(kept[q], d, a, b / d, numbers[q], primes[q]);
+                    Edge.due(curveA + " " + curveB + " side " + side + " class " + k + ", POSSIBLE", x.classOf(side, k, 2), may ? 1 : 0);
+                }
+            }
+        }
+        // a a - 4 b is 1, -3, -4: just above 0, just below it.
+        for (int[] row : new int[][] {{3, 2, 1}, {3, 3, 0}, {1, 1, 0}, {4, 5, 0}, {2, 2, 0}}) {
+            CurvePoints x = Texts.on("curve " + row[0] + " " + row[1] + " within 1 1;");
+            Edge.due(row[0] + " " + row[1] + ", d -1 is POSSIBLE", x.classOf(0, 1, 2), row[2]);
+        }
+    }
+
+    private static boolean isPossibleKept(byte[] kept, long d, long a, long other, int q, int prime) {
+        int place = (int) ((Math.floorMod(d, (long) q) * q + Math.floorMod(a, (long) q)) * q + Math.floorMod(other, (long) q));
+        if (kept[place] == 0) kept[place] = (byte) (isPossibleBy(d, a, other, q, prime) ? 1 : 2);
+        return kept[place] == 1;
+    }
+
+    /** What was told of one CURVE is not told of the next one, though a or b is the same. */
+    private static void changed() {
+        Edge.says(Edge.TERMS, "III. CLASSES of side 0");
+        String[] curves = {"0 -2", "1 -2", "1 -6", "1 -105", "17 -105", "-59 109", "17 -105", "17 41", "0 -2"};
+        CurvePoints x = new CurvePoints();
+        for (String curve : curves) {
+            Texts.curve(x, "curve " + curve + " within 1 1;");
+            CurvePoints fresh = Texts.on("curve " + curve + " within 1 1;");
+            for (int what = 0; what < 8; what++) {
+                Edge.due(curve + " again, " + what, x.classes(what / 4, what % 4), fresh.classes(what / 4, what % 4));
+            }
+            Edge.due(curve + " again, last class", x.classOf(1, 3, 2), fresh.classOf(1, 3, 2));
+            Edge.due(curve + " again, turned", x.turnsRank(1), fresh.turnsRank(1));
+            Edge.due(curve + " again, none left behind", x.classOf(0, fresh.classes(0, 0), 0), Edge.NO_SUCH);
+        }
+        CurvePoints y = Texts.on("curve 0 -2;");
+        int ahead = y.turnsRank(1);
+        y.twists(3);
+        Edge.due("turned by 3", y.turnsRank(1), Texts.on("curve 0 -18;").turnsRank(1));
+        Edge.due("RANK, turned by 3", y.rank(0), Texts.on("curve 0 -18;").rank(0));
+        y.undo();
+        Edge.due("taken back", y.turnsRank(1), ahead);
+        y.goesBeside();
+        Edge.due("BESIDE", y.classes(0, 1), Texts.on("curve 0 -2;").classes(1, 1));
     }
 
     private static void made() {

@@ -236,6 +236,13 @@ final class PointEdges {
             long square = halves.point(i, 2) * halves.point(i, 2);
             Edge.due("of 0 1 4, " + i, halves.part(i), halves.point(i, 0) <= square ? 1 : 0);
         }
+        CurvePoints thin = Texts.on("curve -60 88 within 1000 6;");
+        Edge.due("49 by 36", thin.part(thin.at(49, 6, 1)), 1);
+        CurvePoints thinner = Texts.on("curve -60 123 within 1000 6;");
+        Edge.due("49 by 25", thinner.part(thinner.at(49, 5, -1)), 1);
+        CurvePoints ones = Texts.on("curve 1 -1;");
+        Edge.due("(1, 1), behind the end of the closed one", ones.part(ones.at(1, 1, 1)), 0);
+        Edge.due("(-1, 1)", ones.part(ones.at(-1, 1, 1)), 1);
         Edge.says(41, "-2.");
         Edge.stays("zero", x -> x.part(Edge.ZERO), 0);
         Edge.due("zero, one part alone", Texts.on("curve 1 1;").part(Edge.ZERO), 0);

@@ -11,6 +11,8 @@ final class PrimeEdges {
     static void run() {
         refused();
         dividing();
+        changed();
+        byHand();
         many();
         orders();
         bounds();
@@ -53,6 +55,10 @@ final class PrimeEdges {
             Edge.due("seenBy " + p, x.seenBy(p) == -2 ? 0 : 1, isPrime(p) ? 1 : 0);
         }
         for (int p : new int[] {2, 101, 1, 0, -3, 9, 91, Edge.LEAST, Edge.MOST}) refusedBy("no prime", Edge::busy, p);
+        // 2 divides neither b nor a a - 4 b of these.
+        refusedBy("b 1, a a - 4 b -3", () -> Texts.on("curve 1 1;"), 2);
+        refusedBy("b -105, a a - 4 b 421", () -> Texts.on("curve 1 -105;"), 2);
+        Edge.due("bad(2) where it divides neither", Texts.on("curve 1 1;").bad(2), -2);
         for (int p : new int[] {3, 97}) refusedBy("no curve", CurvePoints::new, p);
     }
 
@@ -78,12 +84,61 @@ final class PrimeEdges {
         Edge.due("taken back", twisted.many(5), 10);
     }
 
-    private static int manyOf(long a, long b, int p) {
-        int many = 1;
-        for (long x = 0; x < p; x++) {
-            for (long y = 0; y < p; y++) if (Math.floorMod(x * x * x + a * x * x + b * x - y * y, p) == 0) many++;
+    /** What was told of one CURVE is not told of the next one, though a or b or the prime is the same. */
+    private static void changed() {
+        Edge.says(Edge.TERMS, "numbers modulo p; all twos x, y with the equation, and ZERO; SUM as above by them");
+        int[][] curves = {{1, 3}, {2, 3}, {1, 3}, {1, 2}, {3, 2}, {3, 7}, {-1, 7}, {1, 3}};
+        for (int p : new int[] {13, 19, 97}) {
+            CurvePoints x = new CurvePoints();
+            for (int[] row : curves) {
+                Texts.curve(x, "curve " + row[0] + " " + row[1] + ";");
+                ByPrime hand = new ByPrime(row[0], row[1], p);
+                String what = row[0] + " " + row[1] + " by " + p;
+                boolean told = row[1] % p != 0 && (row[0] * row[0] - 4 * row[1]) % p != 0;
+                Edge.due(what + ", bestBy", x.bestBy(p, 0), told ? hand.best() / 100 : -2);
+                Edge.due(what + ", many", x.many(p), told ? hand.many() : -2);
+                Edge.due(what + ", groupBy", x.groupBy(p, 0), told ? hand.order(hand.best()) : -2);
+            }
+            CurvePoints turned = Texts.on("curve 1 3;");
+            long ahead = turned.many(p);
+            turned.twists(-1);
+            Edge.due("turned by " + p, turned.many(p), new ByPrime(-1, 3, p).many());
+            turned.undo();
+            Edge.due("taken back by " + p, turned.many(p), ahead);
         }
-        return many;
+    }
+
+    private static void byHand() {
+        Edge.says(Edge.TERMS, "is one of these; else it is ZERO");
+        int[][] curves = {{1, -6}, {17, -105}, {-59, 109}, {-13, 41}, {3, -1}, {60, 200}};
+        for (int[] row : curves) {
+            for (int p : PRIMES) {
+                if (row[1] % p == 0 || (row[0] * row[0] - 4 * row[1]) % p == 0) continue;
+                CurvePoints x = Texts.on("curve " + row[0] + " " + row[1] + " within 200 3;");
+                ByPrime hand = new ByPrime(row[0], row[1], p);
+                String what = row[0] + " " + row[1] + " by " + p;
+                int best = hand.best();
+                int greatest = hand.order(best);
+                Edge.due(what + ", greatest", x.groupBy(p, 0), greatest);
+                Edge.due(what + ", many by it", x.groupBy(p, 1), hand.many() / greatest);
+                Edge.due(what + ", x of the first", x.bestBy(p, 0), best / 100);
+                Edge.due(what + ", y of the first", x.bestBy(p, 1), best % 100);
+                pointsByHand(x, hand, p, what);
+            }
+        }
+    }
+
+    private static void pointsByHand(CurvePoints x, ByPrime hand, int p, String what) {
+        int size = (int) x.count(4);
+        java.util.Set<Integer> unlike = new java.util.HashSet<>();
+        for (int i = 0; i < size; i++) {
+            int code = hand.code(x.point(i, 0), x.point(i, 1), x.point(i, 2));
+            unlike.add(code);
+            Edge.due(what + ", orderBy " + i, x.orderBy(i, p), hand.order(code));
+            int j = size - 1 - i;
+            Edge.due(what + ", logBy " + i + " " + j, x.logBy(i, j, p), hand.log(code, hand.code(x.point(j, 0), x.point(j, 1), x.point(j, 2))));
+        }
+        Edge.due(what + ", seenBy", x.seenBy(p), unlike.size());
     }
 
     private static void many() {
@@ -92,7 +147,7 @@ final class PrimeEdges {
             CurvePoints x = Texts.on("curve " + row[0] + " " + row[1] + ";");
             for (int p : PRIMES) {
                 boolean divides = row[1] % p == 0 || (row[0] * row[0] - 4 * row[1]) % p == 0;
-                Edge.due(row[0] + " " + row[1] + " by " + p, x.many(p), divides ? -2 : manyOf(row[0], row[1], p));
+                Edge.due(row[0] + " " + row[1] + " by " + p, x.many(p), divides ? -2 : new ByPrime(row[0], row[1], p).many());
             }
         }
     }
@@ -229,11 +284,26 @@ final class PrimeEdges {
             CurvePoints x = Texts.on("curve " + curves[k] + ";");
             Edge.due(curves[k] + " by " + want[k][0], x.bad(want[k][0]), want[k][1]);
         }
+        // -2 is like no square modulo 5, 7, 13, 23: there it matters which of a and -2 a is asked.
+        for (int p : new int[] {3, 5, 7, 11, 13, 17, 23, 97}) {
+            for (int a = -6; a <= 6; a++) {
+                Edge.due(p + " divides b, a " + a, Texts.on("curve " + a + " " + p + ";").bad(p), likeSquare(a, p));
+                int b = (a * a - p) / 4;
+                if ((a * a - p) % 4 != 0 || b % p == 0) continue;
+                Edge.due(p + " divides a a - 4 b, a " + a, Texts.on("curve " + a + " " + b + ";").bad(p), likeSquare(-2 * a, p));
+            }
+        }
         Edge.says(54, "-2: it divides neither, is none.");
         for (int p = -3; p <= 104; p++) Edge.due("0 -2 by " + p, Edge.busy().bad(p), -2);
         for (int p = -3; p <= 104; p++) Edge.due("0 -150 by " + p, Texts.on("curve 0 -150;").bad(p), p == 3 || p == 5 ? 3 : -2);
         for (int p : new int[] {2, 7, 101, 0, Edge.LEAST, Edge.MOST}) Edge.stays("bad " + p, x -> x.bad(p), -2);
         Edge.stays("no curve", CurvePoints::new, x -> x.bad(3), -2);
+    }
+
+    private static int likeSquare(int value, int p) {
+        if (value % p == 0) return 3;
+        for (int root = 1; root < p; root++) if ((root * root - value) % p == 0) return 1;
+        return 2;
     }
 
     private static void breaks() {

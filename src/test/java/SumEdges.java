@@ -290,6 +290,10 @@ final class SumEdges {
             solved(x, Edge.ZERO, 3, goal, near ? 0 : Edge.NO_SUCH, near ? k : Edge.NO_SUCH);
         }
         CurvePoints y = Edge.busy();
+        CurvePoints wide = Texts.on("curve 49 175 within 1000 6;");
+        // 8 times: 3 and 5 of one, -5 and -3 for the turned one.
+        solved(wide, 2, 2, 25, 3, 5);
+        solved(wide, 2, 2, 26, -5, -3);
         solved(y, 1, 5, 4, Edge.NO_SUCH, Edge.NO_SUCH);
         solved(y, 1, 2, 6, -2, 0);
         solved(Texts.on("curve -26 196 within 200 4;"), 1, Edge.ZERO, 7, 3, 0);
@@ -404,6 +408,9 @@ final class SumEdges {
         Edge.due("(9, 18), (3, ..)", eight().deep(4), 2);
         Edge.due("cut, the same", cutEight().deep(0), 3);
         Edge.due("four", Texts.on("curve 49 175 within 1000 6;").deep(25), 4);
+        CurvePoints ones = Texts.on("curve 1 -1;");
+        Edge.due("(1, -1), .., (-1, -1), the first of the LIST", ones.deep(3), 3);
+        Edge.due("(1, 1), .., (-1, 1)", ones.deep(4), 3);
         Edge.due("no curve", new CurvePoints().deep(0), -2);
     }
 }
