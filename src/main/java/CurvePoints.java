@@ -1659,7 +1659,6 @@ public final class CurvePoints {
 
     /** A CLASS has a mask too, a bit for each prime in its d and one for below 0: products are told by ^ of masks. */
     private static final class ClassTable {
-        private static final int PRIMES_MOST = 5;
         private static final int DIVISORS_MOST = 32;
         private static final int CLASSES_MOST = 64;
         private static final int SIGN_MASK = 32;

@@ -253,9 +253,15 @@ final class ClassEdges {
         for (int[] row : rows) {
             CurvePoints x = Texts.on("curve " + row[0] + " " + row[1] + " within 1 1;");
             int side = row[2];
+            long[] ds = new long[x.classes(side, 0)];
+            boolean[] found = new boolean[ds.length];
+            for (int k = 0; k < ds.length; k++) {
+                ds[k] = x.classOf(side, k, 0);
+                found[k] = k == 0 || x.classOf(side, k, 1) == 1;
+            }
             int many = 0;
-            for (int k = 0; k < x.classes(side, 0); k++) {
-                boolean reached = isReached(x, side, k);
+            for (int k = 0; k < ds.length; k++) {
+                boolean reached = isReached(ds, found, ds[k]);
                 many += reached ? 1 : 0;
                 Edge.due(row[0] + " " + row[1] + " class " + k + ", MADE", x.classOf(side, k, 3), reached ? 1 : 0);
             }
@@ -265,18 +271,11 @@ final class ClassEdges {
     }
 
     /** A CLASS is a product of up to three FOUND ones: here none needs more. */
-    private static boolean isReached(CurvePoints x, int side, int goal) {
-        int size = x.classes(side, 0);
-        long[] ds = new long[size];
-        boolean[] found = new boolean[size];
-        for (int k = 0; k < size; k++) {
-            ds[k] = x.classOf(side, k, 0);
-            found[k] = k == 0 || x.classOf(side, k, 1) == 1;
-        }
-        for (int i = 0; i < size; i++) {
-            for (int j = 0; j < size; j++) {
-                for (int h = 0; h < size; h++) {
-                    if (found[i] && found[j] && found[h] && isSquare(ds[i] * ds[j] * ds[h] * ds[goal])) return true;
+    private static boolean isReached(long[] ds, boolean[] found, long goal) {
+        for (int i = 0; i < ds.length; i++) {
+            for (int j = 0; j < ds.length; j++) {
+                for (int h = 0; h < ds.length; h++) {
+                    if (found[i] && found[j] && found[h] && isSquare(ds[i] * ds[j] * ds[h] * goal)) return true;
                 }
             }
         }

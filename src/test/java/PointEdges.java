@@ -212,7 +212,7 @@ final class PointEdges {
     private static void parts() {
         Edge.says(41, "of two 0 that without an end, 1 the closed one; 0, if there is one alone");
         // The three x where the curve meets y 0: the first two belong to the closed part.
-        int[][] roots = {{0, -1, -1, 0, 1}, {3, 2, -2, -1, 0}, {-3, 2, 0, 1, 2}, {-59, -60, -1, 0, 60}, {59, -60, -60, 0, 1}, {-21, 20, 0, 1, 20}, {21, 20, -20, -1, 0}};
+        int[][] roots = {{0, -1, -1, 0, 1}, {3, 2, -2, -1, 0}, {-3, 2, 0, 1, 2}, {-59, -60, -1, 0, 60}, {59, -60, -60, 0, 1}, {-21, 20, 0, 1, 20}, {21, 20, -20, -1, 0}, {-22, 120, 0, 10, 12}, {22, 120, -12, -10, 0}};
         for (int[] row : roots) {
             String curve = row[0] + " " + row[1];
             part(curve, row[2], 1);

@@ -129,14 +129,16 @@ final class PrimeEdges {
     }
 
     private static void pointsByHand(CurvePoints x, ByPrime hand, int p, String what) {
-        int size = (int) x.count(4);
+        int[] codes = new int[(int) x.count(4)];
         java.util.Set<Integer> unlike = new java.util.HashSet<>();
-        for (int i = 0; i < size; i++) {
-            int code = hand.code(x.point(i, 0), x.point(i, 1), x.point(i, 2));
-            unlike.add(code);
-            Edge.due(what + ", orderBy " + i, x.orderBy(i, p), hand.order(code));
-            int j = size - 1 - i;
-            Edge.due(what + ", logBy " + i + " " + j, x.logBy(i, j, p), hand.log(code, hand.code(x.point(j, 0), x.point(j, 1), x.point(j, 2))));
+        for (int i = 0; i < codes.length; i++) {
+            codes[i] = hand.code(x.point(i, 0), x.point(i, 1), x.point(i, 2));
+            unlike.add(codes[i]);
+        }
+        for (int i = 0; i < codes.length; i++) {
+            int j = codes.length - 1 - i;
+            Edge.due(what + ", orderBy " + i, x.orderBy(i, p), hand.order(codes[i]));
+            Edge.due(what + ", logBy " + i + " " + j, x.logBy(i, j, p), hand.log(codes[i], codes[j]));
         }
         Edge.due(what + ", seenBy", x.seenBy(p), unlike.size());
     }

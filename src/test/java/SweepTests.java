@@ -7,7 +7,7 @@ public final class SweepTests {
     private static final int[] PRIMES = {3, 5, 7, 11, 13, 17, 19, 23, 29, 31, 37, 41, 43, 47, 53, 59, 61, 67, 71, 73, 79, 83, 89, 97};
 
     private final String text;
-    private final CurvePoints due = new CurvePoints();
+    private CurvePoints due = new CurvePoints();
     private final Model model = new Model();
     private int wrong = 0;
 
@@ -47,7 +47,10 @@ public final class SweepTests {
     }
 
     private int askPoints() {
+        due = Texts.on(text);
         for (int i = 0; i < model.count(4); i++) {
+            // An object is used for at most 512 calls.
+            if (i % 50 == 49) due = Texts.on(text);
             for (int what = 0; what < 3; what++) compare("point " + i + " " + what, due.point(i, what), model.point(i, what));
             compare("part " + i, due.part(i), model.part(i));
             compare("turned " + i, due.turned(i), model.turned(i));
