@@ -44,7 +44,7 @@ final class BesideEdges {
     }
 
     private static void same() {
-        Edge.says(32, "in lowest terms, what 0: above, 1: below (above 0). NO_SUCH.");
+        Edge.says(32, "256 times (a a - 3 b) three times, by b b (a a - 4 b), in lowest terms, what 0: above, 1: below (above 0). NO_SUCH.");
         // 256 (a a - 3 b) three times and b b (a a - 4 b): 0; 27648 by 16; 512 by -3; -256 4096 by -147; 2048 by 4 and a sign.
         String[] curves = {"3 3", "0 -2", "1 1", "5 7", "0 200", "-60 -200", "60 -200"};
         for (String curve : curves) {
@@ -133,7 +133,7 @@ final class BesideEdges {
     }
 
     private static void over() {
-        Edge.says(52, "x is y y by x x, y is y (b - x x) by x x (of x 0, of ZERO: ZERO). FAR: it is not in its LIST; -2.");
+        Edge.says(52, "Its POINT to which a POINT goes over: x is y y by x x, y is y (b - x x) by x x (of x 0, of ZERO: ZERO). FAR: it is not in its LIST; -2.");
         int[] want = {2, 1, Edge.ZERO, 2, 1, Edge.FAR, Edge.FAR};
         for (int i = 0; i < 7; i++) {
             int asked = i;
@@ -157,7 +157,7 @@ final class BesideEdges {
     }
 
     private static void back() {
-        Edge.says(53, "x is y y by 4 x x, y is y (c - x x) by 8 x x, c being a a - 4 b (of x 0, of ZERO: ZERO).");
+        Edge.says(53, "The POINT to which a POINT of the curve BESIDE (1000: ZERO) comes back: x is y y by 4 x x, y is y (c - x x) by 8 x x, c being a a - 4 b (of x 0, of ZERO: ZERO).");
         // (1, -3): 9 by 4, -3 7 by 8; (8, -24): 576 by 256, 24 56 by 512.
         int[] want = {Edge.ZERO, 5, 6, 6, 5};
         for (int j = 0; j < 5; j++) {

@@ -63,7 +63,7 @@ final class ClassEdges {
     }
 
     private static void found() {
-        Edge.says(Edge.TERMS, "if by some M 0 .. 20, e 0 .. 20, without a common divisor (1 and 0, 0 and 1 are such)");
+        Edge.says(Edge.TERMS, "A CLASS is FOUND, if by some M 0 .. 20, e 0 .. 20, without a common divisor (1 and 0, 0 and 1 are such)");
         first("0 -2", 0, 0, 1, 1, 1, 0);
         first("0 -2", 0, 3, -2, 1, 0, 1);
         first("-60 -128", 0, 2, 2, 1, 20, 1);
@@ -79,7 +79,7 @@ final class ClassEdges {
         first("-58 89", 1, 5, -47, 0, 20, 21);
         first("-50 71", 1, 4, 277, 0, 1, 21);
         first("-46 128", 1, 2, 2, 0, 21, 1);
-        Edge.says(Edge.TERMS, "is a square of a whole number (0, too)");
+        Edge.says(Edge.TERMS, "d M M M M + a M M e e + (b by d) e e e e is a square of a whole number (0, too)");
         // -3 - 60 and 63 are 0.
         first("-60 -189", 0, 3, -3, 1, 1, 1);
         first("-60 1", 1, 9, -58, 1, 1, 1);
@@ -108,7 +108,7 @@ final class ClassEdges {
     }
 
     private static void firstFound() {
-        Edge.says(21, "4, 5: the first M, e by which it is FOUND (by e, then M)");
+        Edge.says(21, "Of the k-th CLASS, what 0: d, 1: 1 if it is FOUND, else 0, 2: POSSIBLE, 3: MADE, 4, 5: the first M, e by which it is FOUND (by e, then M)");
         String[] curves = {"0 -2", "-60 -128", "-58 -191", "-20 -93", "17 -105", "-59 109", "35 168", "0 -150", "60 -200", "-60 -200", "22 -135"};
         for (String curve : curves) {
             CurvePoints x = Texts.on("curve " + curve + " within 1 1;");
@@ -187,7 +187,7 @@ final class ClassEdges {
 
     /** Of every fifth CURVE all CLASSES: what is told of each q depends on d, a, b by d modulo q alone, and is kept. */
     private static void possibleAll() {
-        Edge.says(Edge.TERMS, "POSSIBLE, if (1)");
+        Edge.says(Edge.TERMS, "POSSIBLE, if (1) d or b by d is above 0, or a and a a - 4 b are, and (2) for each q");
         int[] numbers = {16, 9, 25, 49, 11, 13};
         int[] primes = {2, 3, 5, 7, 11, 13};
         byte[][] kept = new byte[6][];
@@ -248,7 +248,7 @@ final class ClassEdges {
     }
 
     private static void made() {
-        Edge.says(Edge.TERMS, "the CLASS of 1, FOUND ones, and what comes by products of these (squares taken out)");
+        Edge.says(Edge.TERMS, "MADE: the CLASS of 1, FOUND ones, and what comes by products of these (squares taken out)");
         int[][] rows = {{-27, -52, 0}, {-28, -141, 0}, {-28, -191, 1}, {-28, 8, 1}};
         for (int[] row : rows) {
             CurvePoints x = Texts.on("curve " + row[0] + " " + row[1] + " within 1 1;");
@@ -328,7 +328,7 @@ final class ClassEdges {
     }
 
     private static void ranks() {
-        Edge.says(Edge.TERMS, "can be halved (cut) till it is 1, the same of side 1, both together less 2; at most: likewise by POSSIBLE ones; 0, if less comes, both.");
+        Edge.says(Edge.TERMS, "RANK at least: how often how many MADE ones of side 0 there are can be halved (cut) till it is 1, the same of side 1, both together less 2; at most: likewise by POSSIBLE ones; 0, if less comes, both.");
         // POSSIBLE ones: 6 and 2, 6 and 1, 3 and 8, 3 and 4.
         String[] curves = {"0 -150", "0 -100", "0 104", "0 -88", "17 -105", "-59 109", "60 -105", "-60 -161", "0 -2", "3 1", "-60 -200"};
         for (String curve : curves) {
@@ -358,7 +358,7 @@ final class ClassEdges {
     }
 
     private static void classAt() {
-        Edge.says(23, "(x by d is a square of a fraction; of x 0 that of b)");
+        Edge.says(23, "The d of the CLASS of side 0 in which x of a POINT of the LIST lies (x by d is a square of a fraction; of x 0 that of b)");
         int[] want = {-1, -1, -2, 2, 2, 1, 1};
         for (int i = 0; i < 7; i++) {
             int asked = i;
@@ -380,7 +380,7 @@ final class ClassEdges {
     }
 
     private static void shows() {
-        Edge.says(42, "the square's root being N, 0 or above: x d M M by e e, y d M N by e e e; ZERO by e 0.");
+        Edge.says(42, "The POINT that a FOUND CLASS of side 0 tells by its first M, e, the square's root being N, 0 or above: x d M M by e e, y d M N by e e e; ZERO by e 0.");
         int[] want = {Edge.ZERO, 0, 4, 2};
         for (int k = 0; k < 4; k++) {
             int asked = k;

@@ -1,12 +1,10 @@
 import java.io.IOException;
 import java.nio.file.Files;
 import java.nio.file.Path;
-import java.util.Set;
-import java.util.TreeSet;
 
 /**
- * What the tests of boundary sentences share. Each check stands under a sentence of the document,
- * which is looked up there, so that none is tested that the document does not say.
+ * What the tests of sentences share. Each check stands under a sentence of the document, which is looked up there,
+ * so that none is tested that the document does not say; at the end none may be left that no test has named.
  */
 final class Edge {
     interface Call {
@@ -24,9 +22,11 @@ final class Edge {
     static final int LEAST = Integer.MIN_VALUE;
     static final int MOST = Integer.MAX_VALUE;
     static final int TERMS = 0;
+    static final int WHAT_IT_IS = 64;
 
     private static final String[] SECTIONS = sections();
-    private static final Set<Integer> PROMISES = new TreeSet<>();
+    /** The same texts with what was named blotted out. */
+    private static final String[] UNNAMED = SECTIONS.clone();
     private static String where = "";
     private static int sentences = 0;
     private static int asked = 0;
@@ -35,14 +35,15 @@ final class Edge {
     private Edge() {
     }
 
-    /** What the document says in its terms (0) and in each promise. */
+    /** What the document says in its terms, in each promise, and of what it is. */
     private static String[] sections() {
         try {
             String document = Files.readString(Path.of("../shared/DOC.md")).replaceAll("\\s+", " ");
-            String[] all = new String[64];
+            String[] all = new String[65];
             all[TERMS] = between(document, "## Terms", "## Promise 1:");
             for (int k = 1; k < 63; k++) all[k] = between(document, "## Promise " + k + ":", "## Promise " + (k + 1) + ":");
             all[63] = between(document, "## Promise 63:", "## Not promised");
+            all[WHAT_IT_IS] = between(document, "## What it is", "## The public face");
             return all;
         } catch (IOException e) {
             throw new IllegalStateException(e);
@@ -54,11 +55,16 @@ final class Edge {
     }
 
     /** What is checked from here on is what this sentence says. */
-    static void says(int promise, String sentence) {
-        where = (promise == TERMS ? "terms" : "promise " + promise) + ": " + sentence;
+    static void says(int section, String sentence) {
+        where = (section == TERMS ? "terms" : section == WHAT_IT_IS ? "what it is" : "promise " + section) + ": " + sentence;
         sentences++;
-        PROMISES.add(promise);
-        if (!SECTIONS[promise].contains(sentence)) fail("is not in the document");
+        int start = SECTIONS[section].indexOf(sentence);
+        if (start < 0) {
+            fail("is not in the document");
+            return;
+        }
+        int stop = start + sentence.length();
+        UNNAMED[section] = UNNAMED[section].substring(0, start) + "~".repeat(sentence.length()) + UNNAMED[section].substring(stop);
     }
 
     private static void fail(String what) {
@@ -133,12 +139,18 @@ final class Edge {
         return all.toString();
     }
 
+    /** What is left of a section, but for its title, the call's face, numerals, and the fences of texts. */
+    private static String unnamed(int section) {
+        String left = UNNAMED[section].replaceAll("^## (Terms|What it is|Promise \\d+: [^`]*`[^`]*`:)", "");
+        if (section == WHAT_IT_IS) left = left.replaceAll("^ Points with fractions on curves [^~]*", "");
+        return left.replaceAll("```text|\\b(I|II|III|IV)\\.", "").replaceAll("[^A-Za-z0-9]*~[^A-Za-z0-9]*|^[^A-Za-z0-9]+", " ").trim();
+    }
+
     static void close() {
-        for (int k = 1; k <= 63; k++) {
-            if (!PROMISES.contains(k)) {
-                wrong++;
-                System.out.println("no sentence of promise " + k + " is tested");
-            }
+        for (int section = 0; section < SECTIONS.length; section++) {
+            if (unnamed(section).isEmpty()) continue;
+            wrong++;
+            System.out.println("section " + section + ", not tested: " + unnamed(section));
         }
         System.out.println(sentences + " sentences, " + asked + " checks, " + wrong + " not as due");
         if (wrong != 0) System.exit(1);

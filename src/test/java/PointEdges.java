@@ -26,7 +26,7 @@ final class PointEdges {
     }
 
     private static void listBounds() {
-        Edge.says(Edge.TERMS, "x being m by e e, y being n by e e e, e 1 .. E, m -M .. M");
+        Edge.says(Edge.TERMS, "POINTS: x being m by e e, y being n by e e e, e 1 .. E, m -M .. M");
         Edge.due("m 9 is M", size("curve 0 -2 within 9 2;"), 7);
         Edge.due("m 9 is above M", size("curve 0 -2 within 8 2;"), 5);
         Edge.due("e 2 is E", size("curve 0 -2 within 10 2;"), 7);
@@ -37,7 +37,9 @@ final class PointEdges {
         Edge.due("m 1000 is above 999", Texts.on("curve -45 -190 within 999 1;").at(1000, 1, 1), Edge.NONE);
         Edge.due("e 6", size("curve -5 104 within 1000 6;") > size("curve -5 104 within 1000 5;") ? 1 : 0, 1);
         Edge.due("M 1", size("curve 0 -2 within 1 1;"), 3);
-        Edge.says(Edge.TERMS, "m and e without a common divisor (0 with 1 alone)");
+        Edge.says(Edge.TERMS, "m and e without a common divisor (0 with 1 alone), n whole.");
+        // 27 - 6 is 21, no square; 8 - 4 is one; 1 - 2 is below 0.
+        for (int m = -10; m <= 10; m++) Edge.due("n by m " + m, Texts.on("curve 0 -2;").at(m, 1, 1) >= 0 ? 1 : 0, m == -1 || m == 2 ? 1 : 0);
         CurvePoints x = Texts.on("curve 17 -105 within 1000 6;");
         for (int e = 2; e <= 6; e++) Edge.due("0 with " + e, x.at(0, e, 0), Edge.NONE);
         Edge.due("0 with 1", x.at(0, 1, 0), 14);
@@ -173,7 +175,7 @@ final class PointEdges {
         Edge.due("up to 999", wide.upTo(999), 7);
         Edge.due("up to 1000", wide.upTo(1000), 9);
         Edge.due("no curve", new CurvePoints().upTo(1), -2);
-        Edge.says(Edge.TERMS, "u by v, v above 0: the greater one of u without its sign and v.");
+        Edge.says(Edge.TERMS, "HEIGHT of x as a fraction in lowest terms, u by v, v above 0: the greater one of u without its sign and v.");
         CurvePoints below = Texts.on("curve 0 -2 within 10 3;");
         // x -8 by 9 has the HEIGHT 9, that of 0 is 1.
         Edge.due("up to 8, not -8 by 9", below.upTo(8), 5);
@@ -210,7 +212,7 @@ final class PointEdges {
     }
 
     private static void parts() {
-        Edge.says(41, "of two 0 that without an end, 1 the closed one; 0, if there is one alone");
+        Edge.says(41, "The part of the curve on which a POINT lies: of two 0 that without an end, 1 the closed one; 0, if there is one alone");
         // The three x where the curve meets y 0: the first two belong to the closed part.
         int[][] roots = {{0, -1, -1, 0, 1}, {3, 2, -2, -1, 0}, {-3, 2, 0, 1, 2}, {-59, -60, -1, 0, 60}, {59, -60, -60, 0, 1}, {-21, 20, 0, 1, 20}, {21, 20, -20, -1, 0}, {-22, 120, 0, 10, 12}, {22, 120, -12, -10, 0}};
         for (int[] row : roots) {
@@ -251,7 +253,7 @@ final class PointEdges {
     }
 
     private static void between() {
-        Edge.says(47, "have an x from u by w to v by w (u, v -9999 .. 9999, w 1 .. 99). -2.");
+        Edge.says(47, "How many POINTS of the LIST have an x from u by w to v by w (u, v -9999 .. 9999, w 1 .. 99). -2.");
         int[][] rows = {
             {-9999, 9999, 1, 7}, {-9999, 9999, 99, 7}, {-1, 2, 1, 5}, {-1, 1, 1, 3}, {0, 2, 1, 3}, {0, 1, 1, 1}, {-1, -1, 1, 2}, {2, 2, 1, 2},
             {9, 9, 4, 2}, {10, 9999, 4, 0}, {8, 9, 4, 4}, {9, 10, 4, 2}, {8, 8, 4, 2}, {223, 9999, 99, 0}, {222, 9999, 99, 2}, {222, 223, 99, 2},

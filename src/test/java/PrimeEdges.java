@@ -188,7 +188,7 @@ final class PrimeEdges {
     }
 
     private static void traces() {
-        Edge.says(19, "p and 1 less many(p). NO_SUCH.");
+        Edge.says(19, "BY A PRIME: p and 1 less many(p). NO_SUCH.");
         Edge.stays("by 3, as many as p and 1", x -> x.trace(3), 0);
         Edge.stays("by 5", x -> x.trace(5), -4);
         Edge.stays("by 97", x -> x.trace(97), 98 - 116);
@@ -206,7 +206,7 @@ final class PrimeEdges {
     }
 
     private static void groups() {
-        Edge.says(43, "the greatest of all orderBy there (of all its POINTS), 1: many(p) by that. -2.");
+        Edge.says(43, "BY A PRIME, what 0: the greatest of all orderBy there (of all its POINTS), 1: many(p) by that. -2.");
         int[][] rows = {{3, 0, 4}, {3, 1, 1}, {97, 0, 58}, {97, 1, 2}};
         for (int[] row : rows) Edge.stays("groupBy " + row[0] + " " + row[1], x -> x.groupBy(row[0], row[1]), row[2]);
         for (int what : NO_WHATS) Edge.stays("what " + what, x -> x.groupBy(3, what), -2);
@@ -216,7 +216,7 @@ final class PrimeEdges {
     }
 
     private static void logs() {
-        Edge.says(44, "the least k, 0 and above, by which k times the one POINT is the other one. NONE: none; -2.");
+        Edge.says(44, "BY A PRIME the least k, 0 and above, by which k times the one POINT is the other one. NONE: none; -2.");
         int[][] rows = {
             {1, Edge.ZERO, 3, 0}, {Edge.ZERO, Edge.ZERO, 3, 0}, {1, 1, 3, 1}, {1, 5, 3, 2}, {1, 0, 3, 3}, {1, 2, 3, 2}, {2, 2, 97, 1}, {2, Edge.ZERO, 97, 0},
             {2, 1, 3, Edge.NONE}, {Edge.ZERO, 1, 3, Edge.NONE}, {5, 1, 3, Edge.NONE}
@@ -236,7 +236,7 @@ final class PrimeEdges {
     }
 
     private static void best() {
-        Edge.says(45, "the first by x, then y (ZERO first of all), what 0: x, 1: y; NONE: it is ZERO; -2.");
+        Edge.says(45, "BY A PRIME of all its POINTS with the greatest orderBy the first by x, then y (ZERO first of all), what 0: x, 1: y; NONE: it is ZERO; -2.");
         // By 3 the POINTS are ZERO, (0, 0), (2, 1), (2, 2).
         Edge.stays("x by 3", x -> x.bestBy(3, 0), 2);
         Edge.stays("y by 3", x -> x.bestBy(3, 1), 1);
@@ -276,7 +276,7 @@ final class PrimeEdges {
     }
 
     private static void bad() {
-        Edge.says(54, "1 if (p dividing b) a, else (p not dividing b) -2 a is like a square other than 0 modulo p, 2 if it is like none, 3 if it is like 0.");
+        Edge.says(54, "Of a prime p (3 .. 97) that divides b or a a - 4 b: 1 if (p dividing b) a, else (p not dividing b) -2 a is like a square other than 0 modulo p, 2 if it is like none, 3 if it is like 0.");
         String[] curves = {
             "-59 -198", "-58 -198", "-60 -198", "-59 -200", "-58 -200", "-54 -194", "-60 -194", "0 -194", "-54 -144", "-60 -167", "1 -6", "-2 -2"
         };

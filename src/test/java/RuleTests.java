@@ -1,4 +1,6 @@
 import java.io.IOException;
+import java.io.PrintWriter;
+import java.io.StringWriter;
 import java.lang.reflect.Array;
 import java.lang.reflect.Constructor;
 import java.lang.reflect.Field;
@@ -10,10 +12,13 @@ import java.util.ArrayList;
 import java.util.Collections;
 import java.util.IdentityHashMap;
 import java.util.List;
+import java.util.Map;
 import java.util.Set;
+import java.util.TreeMap;
 import java.util.TreeSet;
 import java.util.regex.Matcher;
 import java.util.regex.Pattern;
+import java.util.spi.ToolProvider;
 
 /** The face of the document, and the rules of LANGUAGE.md that can be seen in the source or in an object. */
 public final class RuleTests {
@@ -138,6 +143,61 @@ public final class RuleTests {
         }
     }
 
+    private static final Set<String> LIBRARY = Set.of(
+        "java/lang/Object.<init>", "java/lang/String.charAt", "java/lang/String.length", "java/lang/Math.abs", "java/lang/Math.max", "java/lang/Math.min",
+        "java/lang/Integer.signum", "java/lang/Long.numberOfLeadingZeros", "java/lang/System.arraycopy", "java/util/Arrays.fill");
+
+    private static String disassembled() {
+        List<String> arguments = new ArrayList<>(List.of("-c", "-p", "-cp", System.getProperty("java.class.path"), "CurvePoints"));
+        for (Class<?> one : CurvePoints.class.getDeclaredClasses()) arguments.add(one.getName());
+        StringWriter text = new StringWriter();
+        PrintWriter writer = new PrintWriter(text);
+        int status = ToolProvider.findFirst("javap").orElseThrow().run(writer, writer, arguments.toArray(new String[0]));
+        due("the class is taken apart", status == 0);
+        return text.toString();
+    }
+
+    /** Which methods each one calls, by class and name; calls of the library are looked at on the way. */
+    private static Map<String, Set<String>> calls() {
+        Map<String, Set<String>> all = new TreeMap<>();
+        String owner = "";
+        String method = "";
+        Pattern title = Pattern.compile("^(?:.* )?(?:class|interface) ([\\w$]+).*\\{$");
+        Pattern head = Pattern.compile("^  \\S.*?([\\w$]+)\\(.*\\);$");
+        Pattern call = Pattern.compile("// (?:Interface)?Method (\\S+?):");
+        for (String line : disassembled().split("\\R")) {
+            Matcher titled = title.matcher(line);
+            Matcher headed = head.matcher(line);
+            Matcher called = call.matcher(line);
+            if (titled.matches()) {
+                owner = titled.group(1);
+            } else if (headed.matches()) {
+                method = owner + "." + (headed.group(1).equals(owner) ? "<init>" : headed.group(1));
+                all.putIfAbsent(method, new TreeSet<>());
+            } else if (called.find()) {
+                String name = called.group(1).replace("\"", "");
+                if (name.contains("/")) due("4: " + name, LIBRARY.contains(name));
+                else all.get(method).add(name.contains(".") ? name : owner + "." + name);
+            }
+        }
+        return all;
+    }
+
+    /** How deep the calls of one go; what calls itself, if only by others, goes deeper than any bound. */
+    private static int depth(Map<String, Set<String>> calls, String method, int ahead) {
+        int most = 0;
+        if (ahead > 20) return most;
+        for (String called : calls.getOrDefault(method, Set.of())) most = Math.max(most, depth(calls, called, ahead + 1));
+        return most + 1;
+    }
+
+    private static void depths() {
+        Map<String, Set<String>> calls = calls();
+        due("methods are taken apart", calls.size() > 200);
+        for (String method : calls.keySet()) due("11: eight deep is " + method, depth(calls, method, 0) <= 8);
+        due("formula() goes as deep as may be", depth(calls, "CurvePoints.formula", 0) == 8);
+    }
+
     public static void main(String[] args) throws IOException, IllegalAccessException {
         Set<String> missing = faceOfDocument();
         missing.removeAll(faceOfClass());
@@ -150,6 +210,7 @@ public final class RuleTests {
         source();
         room();
         madeOnce();
+        depths();
         System.out.println(wrong == 0 ? "the rules hold" : wrong + " rules do not hold");
         if (wrong != 0) System.exit(1);
     }

@@ -44,7 +44,7 @@ final class SumEdges {
     }
 
     private static void sums() {
-        Edge.says(Edge.TERMS, "ZERO and P: P. P and its TURNED one (n the other sign): ZERO.");
+        Edge.says(Edge.TERMS, "SUM of two POINTS: ZERO and P: P. P and its TURNED one (n the other sign): ZERO.");
         for (int i = 0; i < 7; i++) {
             int asked = i;
             Edge.stays("zero and " + i, x -> x.sum(Edge.ZERO, asked), i);
@@ -102,7 +102,7 @@ final class SumEdges {
     }
 
     private static void times() {
-        Edge.says(Edge.TERMS, "k times P is ZERO by 0");
+        Edge.says(Edge.TERMS, "TIMES: k times P is ZERO by 0");
         Edge.stays("0 times", x -> x.times(5, 0), Edge.ZERO);
         Edge.stays("0 times zero", x -> x.times(Edge.ZERO, 0), Edge.ZERO);
         Edge.says(Edge.TERMS, "(k - 1 times P) and P by k above 0 (FAR, if that ahead is FAR); below 0 the TURNED one of that by -k");
@@ -132,7 +132,7 @@ final class SumEdges {
     }
 
     private static void orders() {
-        Edge.says(Edge.TERMS, "the least k 1 .. 12 by which k times it is ZERO; 0: none (one ahead of it is FAR, too)");
+        Edge.says(Edge.TERMS, "ORDER of a POINT: the least k 1 .. 12 by which k times it is ZERO; 0: none (one ahead of it is FAR, too)");
         int[] eights = {2, 8, 8, 4, 4, 8, 8};
         int[] cuts = {2, 0, 0, 4, 4};
         int[] sixes = {2, 3, 3, 6, 6};
@@ -166,7 +166,7 @@ final class SumEdges {
     }
 
     private static void parallels() {
-        Edge.says(25, "less twice BITS of both (of ZERO 0). NO_SUCH (ZERO given, too).");
+        Edge.says(25, "BITS of SUM and of the first with the other one TURNED, less twice BITS of both (of ZERO 0). NO_SUCH (ZERO given, too).");
         int[][] rows = {{1, 1, 4 - 4}, {0, 1, 4 - 4}, {2, 2, -4}, {1, 2, 2 + 2 - 4}, {5, 5, 14 - 16}, {5, 6, 14 - 16}, {1, 5, 8 + 1 - 10}, {0, 5, 8 + 1 - 10}};
         for (int[] row : rows) Edge.stays("parallel " + row[0] + " " + row[1], x -> x.parallel(row[0], row[1]), row[2]);
         for (int i : NO_POINTS) {
@@ -195,7 +195,7 @@ final class SumEdges {
         Edge.due("by one of ORDER 4", x.made(3, 3), 4);
         Edge.due("by (0, 0)", x.made(0, 0), 2);
         Edge.due("behind it again", x.made(1, Edge.ZERO), 8);
-        Edge.says(Edge.TERMS, "SUMS of one of them and one of those told, or that TURNED (in the LIST or not), that are in the LIST.");
+        Edge.says(Edge.TERMS, "as long as there are any, SUMS of one of them and one of those told, or that TURNED (in the LIST or not), that are in the LIST.");
         // Of (3, 12) one and two times alone are there, and three times leads out; (0, 0), four times, is not met.
         Edge.due("cut, by one of ORDER 8", cutEight().made(2, 2), 5);
         Edge.due("cut, with (0, 0)", cutEight().made(2, 0), 6);
@@ -242,7 +242,7 @@ final class SumEdges {
             if (k == 6) relates(x, far, 3, Edge.NO_SUCH, Edge.NO_SUCH);
             if (k >= 2 && k <= 5) relates(x, x.turned(far), 3, -1, -k);
         }
-        Edge.says(28, "are ROUND together (their SUM; none of it FAR)");
+        Edge.says(28, "by which s TIMES the one and t TIMES the other one are ROUND together (their SUM; none of it FAR)");
         CurvePoints y = Edge.busy();
         relates(y, 1, 5, -2, 1);
         relates(y, 1, 6, -2, -1);
@@ -253,7 +253,7 @@ final class SumEdges {
         // (3, 12) has no ORDER, as three times it is FAR; two times it has one.
         relates(cutEight(), 1, 1, -2, 0);
         relates(cutEight(), 2, 3, 0, -1);
-        Edge.says(28, "those by which s and t without signs together are least, then s, then t are least");
+        Edge.says(28, "those by which s and t without signs together are least, then s, then t are least: what 0: s, 1: t.");
         relates(y, Edge.ZERO, Edge.ZERO, -1, 0);
         relates(y, Edge.ZERO, 1, -1, 0);
         relates(y, 1, Edge.ZERO, 0, -1);
@@ -302,7 +302,7 @@ final class SumEdges {
         solved(cut, 1, 3, 0, 0, -2);
         // 4 times (3, 12) would be (0, 0), but 3 times is FAR.
         solved(cut, 2, Edge.ZERO, 0, Edge.NO_SUCH, Edge.NO_SUCH);
-        Edge.says(55, "those by which s and t without signs together are least, then s, then t are least");
+        Edge.says(55, "those by which s and t without signs together are least, then s, then t are least: what 0: s, 1: t.");
         solved(y, 1, 2, Edge.ZERO, 0, 0);
         solved(y, Edge.ZERO, Edge.ZERO, Edge.ZERO, 0, 0);
         solved(y, 1, 2, 4, 1, -1);
@@ -392,7 +392,7 @@ final class SumEdges {
     }
 
     private static void deeps() {
-        Edge.says(56, "each next one half of the one ahead (a POINT of the LIST whose SUM with itself that is), none twice. -2 (ZERO, too).");
+        Edge.says(56, "The most POINTS one behind the other, from a POINT on (that one counted), each next one half of the one ahead (a POINT of the LIST whose SUM with itself that is), none twice. -2 (ZERO, too).");
         int[] want = {1, 1, 1, 1, 1, 2, 2};
         for (int i = 0; i < 7; i++) {
             int asked = i;

@@ -48,7 +48,7 @@ final class TextEdges {
         Edge.due("octet(0)", x.octet(0), Edge.NONE);
         Edge.due("an empty tape is no curve", x.curve(), -4);
         Edge.due("after it, too", x.count(0), Edge.NO_SUCH);
-        Edge.says(Edge.TERMS, "there is no CURVE, no such POINT (of the LIST, 1000), what, number as told; ahead of others");
+        Edge.says(Edge.TERMS, "-2 (where nothing else is told): there is no CURVE, no such POINT (of the LIST, 1000), what, number as told; ahead of others");
         Edge.stays("undo() of a new object", CurvePoints::new, CurvePoints::undo, -2);
         Edge.stays("half(0, 0) of it", CurvePoints::new, y -> y.half(0, 0), -2);
         Edge.stays("makers(0) of it", CurvePoints::new, y -> y.makers(0), -2);
@@ -60,7 +60,7 @@ final class TextEdges {
         Edge.stays("within(5, 5) of it", CurvePoints::new, y -> y.within(5, 5), -2);
         Edge.stays("tell(1000) of it", CurvePoints::new, y -> y.tell(Edge.ZERO), -2);
         Edge.stays("tellCurve() of it", CurvePoints::new, CurvePoints::tellCurve, -2);
-        Edge.says(Edge.TERMS, "`FAR = -6`: A POINT that is not in the LIST.");
+        Edge.says(Edge.TERMS, "The constants: `FAR = -6`: A POINT that is not in the LIST.");
         Edge.due("FAR", Edge.FAR, -6);
         Edge.says(Edge.TERMS, "`ZERO = 1000`: The number of ZERO.");
         Edge.due("ZERO", Edge.ZERO, 1000);
@@ -252,7 +252,7 @@ final class TextEdges {
         read("curve 3 1 within 30 2 2;", 1, 22);
         read("curve 3 1 within 30 2 within 30 2;", 1, 22);
         read("curve 3 1,;", 1, 9);
-        Edge.says(Edge.TERMS, "of several the one whose first byte (a TOKEN's; the end's) is least");
+        Edge.says(Edge.TERMS, "FAULTS, of several the one whose first byte (a TOKEN's; the end's) is least");
         read("", 1, 0);
         read(" ", 1, 1);
         read("curve 0 1 ", 1, 10);
@@ -479,7 +479,7 @@ final class TextEdges {
     }
 
     private static void telling() {
-        Edge.says(36, "(, m, behind it / and e e, if e is not 1, a comma and a blank, n, / and e e e likewise, )");
+        Edge.says(36, "A POINT is TOLD in OUT: (, m, behind it / and e e, if e is not 1, a comma and a blank, n, / and e e e likewise, )");
         CurvePoints x = Edge.busy();
         tells(x, 0, "(-1, -1)");
         tells(x, 6, "(9/4, 21/8)");
@@ -501,7 +501,7 @@ final class TextEdges {
     }
 
     private static void tellingCurves() {
-        Edge.says(57, "yy=xxx, then, if a is not 0, its sign, its size (if that is not 1) and xx, then the sign of b, its size (if that is not 1) and x");
+        Edge.says(57, "The CURVE is TOLD in OUT: yy=xxx, then, if a is not 0, its sign, its size (if that is not 1) and xx, then the sign of b, its size (if that is not 1) and x");
         String[][] all = {
             {"0 1", "yy=xxx+x"}, {"0 -1", "yy=xxx-x"}, {"1 2", "yy=xxx+xx+2x"}, {"-1 -2", "yy=xxx-xx-2x"}, {"2 -1", "yy=xxx+2xx-x"},
             {"-2 -3", "yy=xxx-2xx-3x"}, {"60 200", "yy=xxx+60xx+200x"}, {"-60 -200", "yy=xxx-60xx-200x"}, {"10 -100", "yy=xxx+10xx-100x"},
@@ -517,7 +517,7 @@ final class TextEdges {
     }
 
     private static void octets() {
-        Edge.says(37, "what was told in it last by a call that was not refused, whatever came since, a new text, too");
+        Edge.says(37, "Byte i of OUT (what was told in it last by a call that was not refused, whatever came since, a new text, too");
         CurvePoints x = Edge.busy();
         x.tell(7);
         x.tell(-1);

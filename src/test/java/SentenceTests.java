@@ -1,6 +1,6 @@
-/** A test for each sentence of the document that names a boundary case. */
-public final class BoundaryTests {
-    private BoundaryTests() {
+/** A test for each sentence of the document: what it says, its boundary cases, and what is refused. */
+public final class SentenceTests {
+    private SentenceTests() {
     }
 
     public static void main(String[] args) {
@@ -11,6 +11,7 @@ public final class BoundaryTests {
         PrimeEdges.run();
         ClassEdges.run();
         BesideEdges.run();
+        PlainSentences.run();
         Edge.close();
     }
 }
