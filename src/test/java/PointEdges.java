@@ -242,6 +242,17 @@ final class PointEdges {
         Edge.due("49 by 36", thin.part(thin.at(49, 6, 1)), 1);
         CurvePoints thinner = Texts.on("curve -60 123 within 1000 6;");
         Edge.due("49 by 25", thinner.part(thinner.at(49, 5, -1)), 1);
+        // Near the closed part's end, e above 1: 33 by 4 is below 16 - root of 58, 169 by 36 below 23 - root of 335.
+        int[][] near = {{-32, 198, 33, 2}, {-34, 192, 64, 3}, {-39, 172, 81, 4}, {-41, 185, 121, 5}, {-46, 194, 169, 6}};
+        for (int[] row : near) {
+            CurvePoints x = Texts.on("curve " + row[0] + " " + row[1] + " within 1000 6;");
+            String what = row[2] + " by " + row[3] * row[3] + " on " + row[0] + " " + row[1];
+            for (int sign = -1; sign <= 1; sign += 2) Edge.due(what, x.part(x.at(row[2], row[3], sign)), 1);
+            for (int i = 0; i < x.count(4); i++) {
+                double place = x.point(i, 0) / (double) (x.point(i, 2) * x.point(i, 2));
+                Edge.due(what + ", " + i, x.part(i), place < -row[0] / 2.0 ? 1 : 0);
+            }
+        }
         CurvePoints ones = Texts.on("curve 1 -1;");
         Edge.due("(1, 1), behind the end of the closed one", ones.part(ones.at(1, 1, 1)), 0);
         Edge.due("(-1, 1)", ones.part(ones.at(-1, 1, 1)), 1);

@@ -244,6 +244,15 @@ final class PrimeEdges {
         CurvePoints twos = Texts.on("curve 0 -1;");
         Edge.due("x of the first of like ones", twos.bestBy(3, 0), 0);
         Edge.due("y of it", twos.bestBy(3, 1), 0);
+        // The first comes late here: of all CURVES none has it behind x 47.
+        int[][] late = {{-17, -47, 71, 47}, {-35, -41, 97, 45}, {-41, 31, 83, 42}};
+        for (int[] row : late) {
+            CurvePoints x = Texts.on("curve " + row[0] + " " + row[1] + " within 1 1;");
+            int hand = new ByPrime(row[0], row[1], row[2]).best();
+            Edge.due("a late x by " + row[2], x.bestBy(row[2], 0), row[3]);
+            Edge.due("a late x by " + row[2] + ", by hand", hand / 100, row[3]);
+            Edge.due("its y", x.bestBy(row[2], 1), hand % 100);
+        }
         for (int what : NO_WHATS) Edge.stays("what " + what, x -> x.bestBy(3, what), -2);
     }
 
